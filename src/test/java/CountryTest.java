@@ -52,6 +52,10 @@ public final class CountryTest {
         faultIs("c20-001", 5);
         faultIs("c20-010", 6);
         faultIs("c20-01x", 6);
+        faultIs("c20-01h", 6);
+        faultIs("c30-01-123", 6);
+        faultIs("c30-0-123", 5);
+        faultIs("c30--0123", 4);
         faultIs("c30-013-014", 9);
         faultIs("c30-013 -104", 10);
         faultIs("c30-013-10", 9);

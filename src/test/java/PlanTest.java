@@ -152,6 +152,9 @@ public final class PlanTest {
         z.lure(1, 0, 5);
         Check.tells(z, "FALSE ends don't count", z.route(1), 2, 0);
         Check.due("they stay", z.count(5), 1);
+        z.best();
+        z.fewest(3);
+        Check.tells(z, "nor those that were tried", z.route(1), 2, 0);
         PaperTrail w = Check.land("c30h-011");
         Check.none(w, "no way", () -> w.route(1));
         PaperTrail v = Check.land("c20-011");

@@ -120,7 +120,9 @@ public final class RandomTest {
         Check.found(x, "below NONE", () -> x.kinds(1), Check.UNLIKE);
         Check.fill(x, 1, -1, NONE, NONE);
         Check.found(x, "SIZE ahead of UNLIKE", () -> x.kinds(1), Check.SIZE);
+        Check.fill(x, 1, 2, 6, 8, 9, -1);
         kindsAre(x, 63, NONE, NONE, NONE, NONE);
+        kindsAre(x, 0, 0, NONE, NONE, NONE);
         kindsAre(x, 63, 2, NONE, NONE, NONE);
         kindsAre(x, 0, 3, NONE, NONE, NONE);
         kindsAre(x, 1 | 8, 2, 6, 8, 9);
@@ -162,5 +164,15 @@ public final class RandomTest {
         Check.due("all in the WIND", x.gone(0), 15);
         Check.due("a SLOW one, not called yet", x.gone(2), 2);
         Check.due("a CASTER in the WIND", x.gone(3), 2);
+        x.wind(0);
+        x.off(1);
+        Check.due("the first one is left", x.gone(0), 1);
+        x.off(0);
+        x.lure(2, 1, 1);
+        x.lure(2, 3, 1);
+        x.off(1);
+        Check.due("another one is the first", x.gone(0), 1);
+        x.off(0);
+        Check.due("none is left", x.gone(0), 0);
     }
 }
