@@ -1241,15 +1241,15 @@ public final class PaperTrail {
         }
 
         /** Goes no further than where the hares are CAUGHT: fewest() asks often. */
-        boolean catches(Land land, Course course) {
+        int pursueTillCaught(Land land, Course course) {
             begin(land, course);
             for (int k = 0; k < size - 1; k++) {
                 goOn(k);
                 if (isCaughtAt(k + 1)) {
-                    return true;
+                    return k + 1;
                 }
             }
-            return false;
+            return NONE;
         }
 
         private void begin(Land land, Course course) {
@@ -1478,7 +1478,6 @@ public final class PaperTrail {
             prepare();
             int room = Math.min(MOST_MORE, MOST_ENDS - course.ends);
             for (int many = 0; many <= room; many++) {
-                trial.ends = course.ends + many;
                 if (choose(this, 0, many, 0)) {
                     return many;
                 }
@@ -1487,11 +1486,17 @@ public final class PaperTrail {
         }
 
         private static boolean choose(Planner plan, int depth, int many, int start) {
-            if (depth >= many || depth >= MOST_MORE) {
-                return !plan.chase.catches(plan.land, plan.trial);
+            plan.trial.ends = plan.course.ends + depth;
+            int caught = plan.chase.pursueTillCaught(plan.land, plan.trial);
+            if (caught == NONE || depth >= many || depth >= MOST_MORE) {
+                return caught == NONE;
             }
             for (int n = start; n < plan.openCount; n++) {
                 int code = plan.open[n];
+                // a last one behind the place where they are CAUGHT changes nothing there
+                if (depth + 1 == many && plan.course.indexOf(code / 10) >= caught) {
+                    continue;
+                }
                 plan.chosen[depth] = code;
                 plan.trial.setEnd(plan.course.ends + depth, code / 10, code % 10, LONGEST_END);
                 if (choose(plan, depth + 1, many, n + 1)) {
