@@ -6,11 +6,20 @@ final class Check {
 
     /** 0-1 4, 1-2 3, 2-3 5, 3-4 5, 4-5 6, 5-6 2, 0-2 9, 2-4 7, 1-4 8, 3-5 7. */
     static final String PATHS = "-014-123-235-345-456-562-029-247-148-357";
-    private static int wrong = 0;
+    private static int wrong = 0, made = 0;
 
     private Check() { }
 
+    static int wrong() {
+        return wrong;
+    }
+
+    static int made() {
+        return made;
+    }
+
     static void due(String what, long got, long want) {
+        made++;
         if (got != want) {
             wrong++;
             System.out.println(what + " answered " + got + ", due is " + want);
