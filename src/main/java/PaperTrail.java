@@ -1642,7 +1642,8 @@ public final class PaperTrail {
         static final int MODULUS = 2147483647;
         private static final int FACTOR = 48271;
         private static final int MOST_STEPS = 1000;
-        private static final int[] FACTORIALS = {1, 1, 2, 6, 24, 120, 720, 5040, 40320};
+        /** Up to 5: of 7 PLACES no FALSE end is towards its own one, or the next one of THE TRAIL. */
+        private static final int[] FACTORIALS = {1, 1, 2, 6, 24, 120};
 
         final Land land;
         final Course course;

@@ -27,7 +27,7 @@ final class Check {
     }
 
     static void end() {
-        System.out.println(wrong == 0 ? "as due" : wrong + " answers are not as due");
+        System.out.println(wrong == 0 ? "as due, " + made + " checks" : wrong + " answers are not as due");
         if (wrong != 0) {
             System.exit(1);
         }

@@ -12,6 +12,21 @@ final class Edges {
 
     record Sentence(int promise, String words) { }
 
+    /** PATHS for THE TRAIL 0 .. 6, of 9 minutes each, the longest there is; with 0-2, 1-3, 3-5 beside it. */
+    static final String LONG = "-019-129-239-349-459-569-131-021-351";
+    /** 8 of the FALSE ends that there can be on it; two that are left are 3 towards 5, 5 towards 3. */
+    static final int[][] ENDS = {{1, 0}, {2, 1}, {3, 2}, {4, 3}, {5, 4}, {1, 3}, {3, 1}, {0, 2}};
+
+    static PaperTrail longRun(String headAndHounds) {
+        return Check.land("c7" + headAndHounds + LONG, 0, 1, 2, 3, 4, 5, 6);
+    }
+
+    static void layEnds(PaperTrail x, int many, int minutes) {
+        for (int n = 0; n < many; n++) {
+            Check.due("lure " + n, x.lure(ENDS[n][0], ENDS[n][1], minutes), n + 1);
+        }
+    }
+
     /** Numbers just outside of 0 .. n - 1, and far outside. */
     static int[] outside(int n) {
         return new int[] {-1, n, Integer.MIN_VALUE, Integer.MAX_VALUE};

@@ -2,8 +2,6 @@
 final class EdgesOfPlans {
     private static final int NONE = PaperTrail.NONE;
     private static final int MIN = Integer.MIN_VALUE, MAX = Integer.MAX_VALUE;
-    private static final String LONG = "-019-129-239-349-459-569-131-021-351";
-    private static final int[][] ENDS = {{1, 0}, {2, 1}, {3, 2}, {4, 3}, {5, 4}, {1, 3}, {3, 1}, {0, 2}};
 
     private EdgesOfPlans() { }
 
@@ -61,16 +59,6 @@ final class EdgesOfPlans {
         Edges.says(36, "(In this order.)", EdgesOfPlans::partedOrder);
     }
 
-    private static PaperTrail longRun(String headAndHounds) {
-        return Check.land("c7" + headAndHounds + LONG, 0, 1, 2, 3, 4, 5, 6);
-    }
-
-    private static void layEnds(PaperTrail x, int many) {
-        for (int n = 0; n < many; n++) {
-            Check.due("lure " + n, x.lure(ENDS[n][0], ENDS[n][1], 1), n + 1);
-        }
-    }
-
     private static void bestCode() {
         PaperTrail x = Check.land("c30h-011-121-021", 0, 1, 2);
         Check.tells(x, "1 towards 0, 5 long", x.best(), 105, 12);
@@ -82,6 +70,13 @@ final class EdgesOfPlans {
         y.lure(5, 0, 1);
         Check.tells(y, "5 towards 4", y.best(), 545, 14);
         Check.due("nothing is laid", y.count(5), 1);
+        PaperTrail z = Check.land("c40h-011-121-231", 0, 1, 2, 3);
+        z.lure(1, 0, 1);
+        Check.tells(z, "2 towards 1", z.best(), 215, 15);
+        // 17 could be laid, more than in any other country; a LEADER is kept up by the last one alone
+        PaperTrail w = Check.land("c70l-011-121-231-341-451-561-021-031-041-131-141-241", 0, 1, 2, 3, 4, 5, 6);
+        w.wind(31);
+        Check.tells(w, "5 towards 4 is the seventeenth", w.best(), 541, 12);
     }
 
     private static void bestLatest() {
@@ -102,7 +97,7 @@ final class EdgesOfPlans {
     }
 
     private static void bestMinute() {
-        PaperTrail x = longRun("9t");
+        PaperTrail x = Edges.longRun("9t");
         Check.tells(x, "6 times 19, 9, and 10", x.best(), 105, 133);
         x.head(0);
         Check.tells(x, "by another HEAD", x.best(), 105, 124);
@@ -131,14 +126,14 @@ final class EdgesOfPlans {
     }
 
     private static void bestFull() {
-        PaperTrail x = longRun("0h");
-        layEnds(x, 7);
+        PaperTrail x = Edges.longRun("0h");
+        Edges.layEnds(x, 7, 1);
         // 6 of them cost 2 minutes each; 2 towards 0 costs 10 more
         Check.tells(x, "7: one more can be laid", x.best(), 205, 76);
         Check.due("an eighth", x.lure(0, 2, 1), 8);
         Check.refused(x, "8", () -> x.best(), PaperTrail.FULL, 0);
-        PaperTrail y = longRun("0");
-        layEnds(y, 8);
+        PaperTrail y = Edges.longRun("0");
+        Edges.layEnds(y, 8, 1);
         Check.refused(y, "8, no HOUNDS: FULL ahead of NONE", () -> y.best(), PaperTrail.FULL, 0);
     }
 
@@ -204,6 +199,11 @@ final class EdgesOfPlans {
         Check.due("one of several", w.fewest(0), 1);
         Check.holds(w, "1 towards 0 ahead of 2 towards 0", 0, 10);
         Check.due("asked() is not told by it", w.asked(), 10);
+        // CAUGHT at PLACE 1 but for an end at PLACE 2, ahead of it; then at the INN but for one at PLACE 1, too
+        PaperTrail v = Check.land("c45l-029-213-133", 0, 2, 1, 3);
+        Check.tells(v, "CAUGHT at PLACE 1", v.caught(), 2, 0);
+        Check.due("both", v.fewest(0), 2);
+        Check.holds(v, "rising, whatever THE TRAIL's order is", 0, 12, 20);
     }
 
     private static void fewestNone() {
@@ -224,7 +224,7 @@ final class EdgesOfPlans {
     }
 
     private static void fewestRoom() {
-        PaperTrail x = longRun("5q");
+        PaperTrail x = Edges.longRun("5q");
         // it gains 24 of 5; these keep it up by 2 at 3, by 2 and 2 at 5: two of 10 minutes are still due, the first at 1
         for (int[] end : new int[][] {{1, 3}, {3, 5}, {0, 2}, {5, 3}, {3, 1}, {5, 4}}) {
             x.lure(end[0], end[1], 1);
@@ -586,6 +586,13 @@ final class EdgesOfPlans {
         PaperTrail x = Check.land("c30h-011-121-021", 0, 1, 2);
         x.lure(0, 2, 5);
         Check.due("THE TRAIL comes ahead of a greater one", x.parted(0, 1), 0);
+        // by the number of the next PLACE, not of this one
+        PaperTrail y = Check.land("c40h-011-121-131", 0, 1, 3);
+        y.lure(1, 2, 1);
+        Check.due("at 1, next 3: 2 comes ahead", y.parted(1, 1), 2);
+        PaperTrail z = Check.land("c50h-031-311-141-321", 0, 3, 1, 4);
+        z.lure(3, 2, 1);
+        Check.due("at 3, next 1: 2 comes behind", z.parted(1, 1), 0);
     }
 
     private static void partedNext() {
@@ -650,6 +657,11 @@ final class EdgesOfPlans {
         x.wind(127);
         Check.due("in the WIND", x.parted(5, 1), 0);
         Check.due("ahead of it", x.parted(4, 1), 2);
+        PaperTrail y = Edges.longRun("0h");
+        y.wind(127);
+        Check.due("the last place of the longest TRAIL", y.parted(6, 1), 0);
+        Check.due("ahead of it", y.parted(5, 1), 2);
+        Check.found(y, "behind it", () -> y.parted(7, 1), Check.BEYOND);
     }
 
     private static void partedOrder() {

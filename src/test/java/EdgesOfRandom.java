@@ -3,8 +3,6 @@ final class EdgesOfRandom {
     private static final int NONE = PaperTrail.NONE;
     private static final int MIN = Integer.MIN_VALUE, MAX = Integer.MAX_VALUE;
     private static final long MODULUS = 2147483647L;
-    private static final String LONG = "-019-129-239-349-459-569-131-021-351";
-    private static final int[][] ENDS = {{1, 0}, {2, 1}, {3, 2}, {4, 3}, {5, 4}, {1, 3}, {3, 1}, {0, 2}};
 
     private EdgesOfRandom() { }
 
@@ -42,16 +40,6 @@ final class EdgesOfRandom {
         Edges.says(41, "STATE", EdgesOfRandom::goneState);
     }
 
-    private static PaperTrail longRun(String headAndHounds) {
-        return Check.land("c7" + headAndHounds + LONG, 0, 1, 2, 3, 4, 5, 6);
-    }
-
-    private static void layEnds(PaperTrail x, int minutes) {
-        for (int n = 0; n < 8; n++) {
-            x.lure(ENDS[n][0], ENDS[n][1], minutes);
-        }
-    }
-
     private static void chanceAtRandom() {
         PaperTrail x = Check.land("c50h-011-121-131-141-021", 0, 1, 4);
         Check.fraction(x, "no CHECK, one minute too soon", x.chance(0, 1), 0, 1);
@@ -69,12 +57,37 @@ final class EdgesOfRandom {
         x.lure(0, 2, 1);
         Check.fraction(x, "one at the START, too: none ahead", x.chance(0, 2), 1, 8);
         Check.fraction(x, "one at most ahead: 1 of 4 and 1 of 8", x.chance(0, 4), 3, 8);
-        PaperTrail y = longRun("0h");
-        layEnds(y, 5);
+        chanceAtStart();
+        chanceOfFive();
+        PaperTrail y = Edges.longRun("0h");
+        Edges.layEnds(y, 8, 5);
         // 2 at 1, 1 at 2, 2 at 3, 1 at 4, 1 at 5, 1 at the START: 3 3 2 2 2 2 = 144 times alike
         Check.fraction(y, "eight: none ahead", y.chance(0, 54), 1, 144);
         Check.fraction(y, "eight: not all ahead", y.chance(0, 133), 143, 144);
         Check.fraction(y, "eight: all ahead", y.chance(0, 134), 1, 1);
+    }
+
+    private static void chanceAtStart() {
+        PaperTrail x = Check.land("c40h-011-131-021-031", 0, 1, 3);
+        x.lure(0, 2, 1);
+        x.lure(0, 3, 1);
+        Check.fraction(x, "two at the START: none ahead", x.chance(0, 2), 1, 3);
+        Check.fraction(x, "one at most ahead", x.chance(0, 4), 2, 3);
+        Check.fraction(x, "both ahead", x.chance(0, 6), 1, 1);
+    }
+
+    /** No PLACE can have more than five. */
+    private static void chanceOfFive() {
+        PaperTrail x = Check.land("c70h-011-121-131-141-151-161", 0, 1, 6);
+        int[] ends = {0, 2, 3, 4, 5};
+        for (int n = 0; n < 5; n++) {
+            x.lure(1, ends[n], 1 + n % 2);
+        }
+        // three of 2 minutes, two of 4: with none ahead 120 of 720 orders, with just one, of 2 minutes, 24 each
+        Check.fraction(x, "none ahead", x.chance(0, 2), 1, 6);
+        Check.fraction(x, "one of 2 ahead", x.chance(0, 4), 4, 15);
+        Check.fraction(x, "all but the last", x.chance(0, 15), 5, 6);
+        Check.fraction(x, "all ahead", x.chance(0, 16), 1, 1);
     }
 
     private static void chancePace() {
@@ -114,8 +127,8 @@ final class EdgesOfRandom {
         PaperTrail y = Check.land("c20q-011", 0, 1);
         Check.fraction(y, "minute 0", y.chance(0, 0), 0, 1);
         Check.fraction(y, "minute 1", y.chance(0, 1), 1, 1);
-        PaperTrail z = longRun("9t");
-        layEnds(z, 5);
+        PaperTrail z = Edges.longRun("9t");
+        Edges.layEnds(z, 8, 5);
         z.wind(127);
         Check.fraction(z, "the latest: 9, 6 times 19 and 2, 80", z.chance(0, 214), 143, 144);
         Check.fraction(z, "the latest", z.chance(0, 215), 1, 1);
@@ -155,8 +168,8 @@ final class EdgesOfRandom {
         Check.fraction(y, "a LEADER does not wait", y.mid(3), 7, 1);
         y.wind(16);
         Check.fraction(y, "none at the INN", y.mid(0), 5, 1);
-        PaperTrail z = longRun("9t");
-        layEnds(z, 5);
+        PaperTrail z = Edges.longRun("9t");
+        Edges.layEnds(z, 8, 5);
         z.wind(127);
         Check.fraction(z, "9, 6 times 19 and 2, half of 80", z.mid(0), 175, 1);
         Check.due("asked() is not told by it", z.asked(), 0);
@@ -193,8 +206,8 @@ final class EdgesOfRandom {
     }
 
     private static void runByLots() {
-        PaperTrail x = longRun("0a");
-        layEnds(x, 1);
+        PaperTrail x = Edges.longRun("0a");
+        Edges.layEnds(x, 8, 1);
         for (int seed : new int[] {1, 2, 16807, 1 << 30, MAX - 2, MAX - 1}) {
             java.math.BigInteger lot = java.math.BigInteger.valueOf(seed);
             int minute = 54;
@@ -281,7 +294,7 @@ final class EdgesOfRandom {
         Check.tells(x, "by another HEAD", x.run(1), 0, 1);
         x.wind(3);
         Check.tells(x, "2 in the WIND, none at the INN", x.run(1), 0, 3);
-        PaperTrail y = longRun("9t");
+        PaperTrail y = Edges.longRun("9t");
         y.wind(127);
         Check.tells(y, "9, 6 times 19 and 2", y.run(1), 0, 135);
     }
@@ -396,6 +409,9 @@ final class EdgesOfRandom {
         }
         kindsAre(x, 1 | 8, 0, 3);
         kindsAre(x, 1 | 8, -9, 3);
+        Check.fill(x, 1, 0, 3, -1);
+        x.row(1, 2);
+        Check.due("what was behind its end is nothing to a ROW", x.kinds(1), 0);
     }
 
     private static void kindsOrder() {
@@ -415,11 +431,11 @@ final class EdgesOfRandom {
     }
 
     private static void goneBits() {
-        PaperTrail x = longRun("0hals");
+        PaperTrail x = Edges.longRun("0hals");
         for (int i = 0; i < 4; i++) {
             Check.due("none are laid", x.gone(i), 0);
         }
-        layEnds(x, 1);
+        Edges.layEnds(x, 8, 1);
         Check.due("a HOUND: all but 1 towards 3, 0 towards 2", x.gone(0), 255 - 32 - 128);
         Check.due("a CASTER: just those", x.gone(1), 32 + 128);
         Check.due("a LEADER: none", x.gone(2), 0);

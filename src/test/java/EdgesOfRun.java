@@ -2,7 +2,6 @@
 final class EdgesOfRun {
     private static final int NONE = PaperTrail.NONE;
     private static final int MAX = Integer.MAX_VALUE;
-    private static final String LONG = "-019-129-239-349-459-569-021";
 
     private EdgesOfRun() { }
 
@@ -44,12 +43,8 @@ final class EdgesOfRun {
         Edges.says(29, "(In this order.)", EdgesOfRun::callOrder);
     }
 
-    private static PaperTrail longRun(String headAndHounds) {
-        return Check.land("c7" + headAndHounds + LONG, 0, 1, 2, 3, 4, 5, 6);
-    }
-
     private static void haresAt() {
-        PaperTrail x = longRun("9");
+        PaperTrail x = Edges.longRun("9");
         for (int k = 0; k <= 6; k++) {
             Check.due("hares(" + k + ")", x.hares(k), 9 * k);
         }
@@ -95,7 +90,7 @@ final class EdgesOfRun {
     }
 
     private static void comesTo() {
-        PaperTrail x = longRun("9hqst");
+        PaperTrail x = Edges.longRun("9hqst");
         int[] pace = {9, 5, 18, 19};
         for (int i = 0; i < 4; i++) {
             for (int k = 0; k <= 6; k++) {
@@ -110,7 +105,7 @@ final class EdgesOfRun {
     }
 
     private static void comesLeaves() {
-        PaperTrail x = longRun("0h");
+        PaperTrail x = Edges.longRun("0h");
         Check.tells(x, "no CHECK: at once", x.comes(0, 0), 0, 0);
         Check.tells(x, "the INN", x.comes(0, 6), 54, NONE);
         x.lure(1, 0, 5);
@@ -182,21 +177,21 @@ final class EdgesOfRun {
     }
 
     private static void packAlike() {
-        PaperTrail x = longRun("5qhsa");
+        PaperTrail x = Edges.longRun("5qhsa");
         for (int n = 0; n < 2; n++) {
             x.pack(0, 1);
             Check.holds(x, "all at the START in minute 5", 1, 0, 1, 2, 3);
         }
         x.pack(1, 1);
         Check.holds(x, "0 first, 1 and 3 alike, 2 last", 1, 0, 1, 3, 2);
-        PaperTrail y = longRun("5hhhh");
+        PaperTrail y = Edges.longRun("5hhhh");
         y.wind(127);
         y.pack(6, 1);
         Check.holds(y, "four alike", 1, 0, 1, 2, 3);
     }
 
     private static void packRow() {
-        PaperTrail x = longRun("5qh");
+        PaperTrail x = Edges.longRun("5qh");
         for (int r = 0; r < 6; r++) {
             Check.due("a ROW that is missing, or there", x.pack(1, r), 2);
             Check.holds(x, "ROW " + r, r, 0, 1);
@@ -207,7 +202,7 @@ final class EdgesOfRun {
         x.row(3, 0);
         x.pack(1, 3);
         Check.holds(x, "an empty ROW is longer", 3, 0, 1);
-        PaperTrail y = longRun("5");
+        PaperTrail y = Edges.longRun("5");
         y.pack(1, 2);
         Check.due("an empty ROW is there", y.count(7), 2);
         Check.holds(y, "without HOUNDS", 2);
@@ -217,7 +212,7 @@ final class EdgesOfRun {
     private static void packCounts() {
         String hounds = "";
         for (int many = 0; many <= 4; many++) {
-            PaperTrail x = longRun("5" + hounds);
+            PaperTrail x = Edges.longRun("5" + hounds);
             Check.due("of " + many, x.pack(6, 5), many);
             hounds += "h";
         }
@@ -313,7 +308,7 @@ final class EdgesOfRun {
             x.head(head);
             Check.tells(x, "by the first HOUND, HEAD " + head, x.ahead(), 1, head);
         }
-        PaperTrail y = longRun("0t");
+        PaperTrail y = Edges.longRun("0t");
         y.wind(127);
         Check.tells(y, "6 times 19 and 2, less 54", y.ahead(), 1, 72);
     }
@@ -325,7 +320,7 @@ final class EdgesOfRun {
         Check.tells(x, "0", x.ahead(), 1, 0);
         x.head(3);
         Check.tells(x, "-1, no refusal", x.ahead(), 1, -1);
-        PaperTrail y = longRun("0q");
+        PaperTrail y = Edges.longRun("0q");
         Check.tells(y, "30 less 54", y.ahead(), 1, -24);
     }
 
@@ -341,14 +336,14 @@ final class EdgesOfRun {
     }
 
     private static void callAhead() {
-        PaperTrail x = longRun("0hqsa");
+        PaperTrail x = Edges.longRun("0hqsa");
         x.wind(1 << 1 | 1 << 5);
         Check.due("at 1", x.call(1), 2);
         Check.due("at 5", x.call(5), 2);
-        PaperTrail y = longRun("0aaah");
+        PaperTrail y = Edges.longRun("0aaah");
         y.lure(1, 0, 1);
         Check.due("all CASTERS, but not the HOUND", y.call(1), 7);
-        PaperTrail z = longRun("0aaaa");
+        PaperTrail z = Edges.longRun("0aaaa");
         z.lure(1, 0, 1);
         Check.due("all four", z.call(1), 15);
         Check.due("asked() is not told by it", z.asked(), 0);
@@ -371,16 +366,16 @@ final class EdgesOfRun {
         PaperTrail x = Check.land("c30hsta-011-121-021", 0, 1, 2);
         x.lure(0, 2, 5);
         Check.due("who is called at once CALLS in the same minute", x.call(0), 7);
-        PaperTrail y = longRun("0hhhh");
+        PaperTrail y = Edges.longRun("0hhhh");
         y.wind(1 << 3);
         Check.due("four", y.call(3), 15);
-        PaperTrail z = longRun("0hh");
+        PaperTrail z = Edges.longRun("0hh");
         z.wind(1 << 3);
         Check.due("two", z.call(3), 3);
     }
 
     private static void callNone() {
-        PaperTrail x = longRun("0hq");
+        PaperTrail x = Edges.longRun("0hq");
         for (int k = 0; k <= 6; k++) {
             Check.due("no CHECK at " + k, x.call(k), 0);
         }
@@ -388,7 +383,7 @@ final class EdgesOfRun {
         Check.due("WIND at the INN is no CHECK", x.call(6), 0);
         x.wind(1 << 5);
         Check.due("but ahead of it", x.call(5), 2);
-        PaperTrail y = longRun("0");
+        PaperTrail y = Edges.longRun("0");
         y.wind(127);
         y.lure(1, 0, 1);
         Check.due("no HOUNDS", y.call(1), 0);
@@ -412,7 +407,7 @@ final class EdgesOfRun {
         Check.due("the last place", x.call(5), 0);
         Check.found(x, "call(6)", () -> x.call(6), Check.BEYOND);
         Check.found(x, "call(MAX)", () -> x.call(MAX), Check.BEYOND);
-        PaperTrail y = longRun("0");
+        PaperTrail y = Edges.longRun("0");
         Check.found(y, "BEYOND without HOUNDS", () -> y.call(7), Check.BEYOND);
     }
 

@@ -2,9 +2,7 @@
 final class EdgesOfTrail {
     private static final int NONE = PaperTrail.NONE;
     private static final int MIN = Integer.MIN_VALUE, MAX = Integer.MAX_VALUE;
-    /** THE TRAIL 0 .. 6, of 9 minutes each, takes 54; ENDS are 8 that there can be, more are at 3 and 5. */
-    private static final String LONG = "c70h-019-129-239-349-459-569-131-021-351";
-    private static final int[][] ENDS = {{1, 0}, {2, 1}, {3, 2}, {4, 3}, {5, 4}, {1, 3}, {3, 1}, {0, 2}};
+    private static final String LONG = "c70h" + Edges.LONG;
 
     private EdgesOfTrail() { }
 
@@ -50,12 +48,6 @@ final class EdgesOfTrail {
         Edges.says(23, "NOTHING", EdgesOfTrail::onNothing);
     }
 
-    private static void layEnds(PaperTrail x, int many, int minutes) {
-        for (int n = 0; n < many; n++) {
-            Check.due("lure " + n, x.lure(ENDS[n][0], ENDS[n][1], minutes), n + 1);
-        }
-    }
-
     private static void trailIsRow() {
         PaperTrail x = Check.land("c30-011-122-029");
         Check.fill(x, 5, 0, 1, 2);
@@ -73,8 +65,8 @@ final class EdgesOfTrail {
     }
 
     private static void trailEndsGo() {
-        PaperTrail x = Check.land(LONG, 0, 1, 2, 3, 4, 5, 6);
-        layEnds(x, 8, 5);
+        PaperTrail x = Edges.longRun("0h");
+        Edges.layEnds(x, 8, 5);
         Check.due("the same TRAIL again", x.trail(0), 6);
         Check.due("count(5)", x.count(5), 0);
         Check.due("paper()", x.paper(), 54);
@@ -183,7 +175,7 @@ final class EdgesOfTrail {
     }
 
     private static void lureTowards() {
-        PaperTrail x = Check.land(LONG, 0, 1, 2, 3, 4, 5, 6);
+        PaperTrail x = Edges.longRun("0h");
         Check.due("the HOUND loses none", x.hound(0, 2) * 0 + x.asked(), 0);
         Check.due("a lesser one", x.lure(1, 0, 2), 1);
         Check.tells(x, "is gone", x.hound(0, 2), 1, 4);
@@ -210,8 +202,8 @@ final class EdgesOfTrail {
     }
 
     private static void lureCounts() {
-        PaperTrail x = Check.land(LONG, 0, 1, 2, 3, 4, 5, 6);
-        layEnds(x, 8, 1);
+        PaperTrail x = Edges.longRun("0h");
+        Edges.layEnds(x, 8, 1);
         Check.due("count(5)", x.count(5), 8);
         Check.due("off(3)", x.off(3), 5);
         Check.due("the fourth again", x.lure(3, 5, 1), 4);
@@ -268,8 +260,8 @@ final class EdgesOfTrail {
     }
 
     private static void lureFull() {
-        PaperTrail x = Check.land(LONG, 0, 1, 2, 3, 4, 5, 6);
-        layEnds(x, 7, 1);
+        PaperTrail x = Edges.longRun("0h");
+        Edges.layEnds(x, 7, 1);
         Check.due("an eighth", x.lure(3, 5, 1), 8);
         Check.refused(x, "a ninth", () -> x.lure(0, 2, 1), PaperTrail.FULL, 0);
         Check.refused(x, "a ninth", () -> x.lure(5, 3, 5), PaperTrail.FULL, 0);
@@ -285,7 +277,7 @@ final class EdgesOfTrail {
         Check.state(x, "STATE ahead of UNLIKE", () -> x.lure(1, 1, 1));
         Check.fill(x, 0, 0, 1, 2, 3, 4, 5, 6);
         x.trail(0);
-        layEnds(x, 8, 1);
+        Edges.layEnds(x, 8, 1);
         Check.bad(x, "BAD ahead of UNLIKE, FULL", () -> x.lure(1, 1, 0));
         Check.bad(x, "BAD ahead of FULL", () -> x.lure(3, 5, 6));
         Check.found(x, "UNLIKE (there is one) ahead of FULL", () -> x.lure(1, 0, 1), Check.UNLIKE);
@@ -295,9 +287,9 @@ final class EdgesOfTrail {
 
     private static void offFromNumber() {
         for (int n = 0; n <= 8; n++) {
-            PaperTrail x = Check.land(LONG, 0, 1, 2, 3, 4, 5, 6);
+            PaperTrail x = Edges.longRun("0h");
             for (int k = 0; k < 8; k++) {
-                x.lure(ENDS[k][0], ENDS[k][1], 1 + k % 5);
+                x.lure(Edges.ENDS[k][0], Edges.ENDS[k][1], 1 + k % 5);
             }
             x.off(n);
             Check.due("left", x.count(5), n);
@@ -306,20 +298,20 @@ final class EdgesOfTrail {
                 int end = k;
                 paper += k < n ? 1 + k % 5 : 0;
                 if (k < n) {
-                    Check.found(x, "stays: " + k, () -> x.lure(ENDS[end][0], ENDS[end][1], 1), Check.UNLIKE);
+                    Check.found(x, "stays: " + k, () -> x.lure(Edges.ENDS[end][0], Edges.ENDS[end][1], 1), Check.UNLIKE);
                 }
             }
             Check.due("paper()", x.paper(), paper);
             if (n < 8) {
-                Check.due("is no more: " + n, x.lure(ENDS[n][0], ENDS[n][1], 1), n + 1);
+                Check.due("is no more: " + n, x.lure(Edges.ENDS[n][0], Edges.ENDS[n][1], 1), n + 1);
             }
         }
     }
 
     private static void offCounts() {
-        PaperTrail x = Check.land(LONG, 0, 1, 2, 3, 4, 5, 6);
+        PaperTrail x = Edges.longRun("0h");
         Check.due("of none", x.off(0), 0);
-        layEnds(x, 8, 1);
+        Edges.layEnds(x, 8, 1);
         Check.due("none of 8", x.off(8), 0);
         Check.due("one of 8", x.off(7), 1);
         Check.due("two of 7", x.off(5), 2);
@@ -384,9 +376,9 @@ final class EdgesOfTrail {
     private static void paperTaken() {
         PaperTrail x = Check.land("c20-011", 0, 1);
         Check.due("the least", x.paper(), 1);
-        PaperTrail y = Check.land(LONG, 0, 1, 2, 3, 4, 5, 6);
+        PaperTrail y = Edges.longRun("0h");
         Check.due("without FALSE ends", y.paper(), 54);
-        layEnds(y, 8, 5);
+        Edges.layEnds(y, 8, 5);
         Check.due("the most", y.paper(), 94);
         y.wind(127);
         y.head(9);
@@ -422,8 +414,8 @@ final class EdgesOfTrail {
         PaperTrail x = Check.land("c20-011", 0, 1);
         Check.due("the least does not last", x.empty(0), 0);
         Check.none(x, "just enough", () -> x.empty(1));
-        PaperTrail y = Check.land(LONG, 0, 1, 2, 3, 4, 5, 6);
-        layEnds(y, 8, 5);
+        PaperTrail y = Edges.longRun("0h");
+        Edges.layEnds(y, 8, 5);
         Check.due("one too few", y.empty(93), 5);
         Check.none(y, "just enough", () -> y.empty(94));
         Check.none(y, "more than enough", () -> y.empty(95));
@@ -450,9 +442,9 @@ final class EdgesOfTrail {
     }
 
     private static void keepAll() {
-        PaperTrail x = Check.land(LONG, 0, 1, 2, 3, 4, 5, 6);
+        PaperTrail x = Edges.longRun("0h");
         x.head(4);
-        layEnds(x, 3, 2);
+        Edges.layEnds(x, 3, 2);
         x.wind(5);
         long[] digests = new long[3];
         for (int k = 0; k < 3; k++) {
@@ -480,7 +472,7 @@ final class EdgesOfTrail {
         Check.fill(x, 0, 0, 1, 2, 3, 4, 5, 6);
         x.trail(0);
         Check.due("without FALSE ends", x.keep(1), 0);
-        layEnds(x, 8, 1);
+        Edges.layEnds(x, 8, 1);
         Check.due("8", x.keep(2), 8);
         Check.due("over another one", x.keep(0), 8);
         Check.due("three are kept", x.count(9), 3);
@@ -539,9 +531,9 @@ final class EdgesOfTrail {
     }
 
     private static void onCounts() {
-        PaperTrail x = Check.land(LONG, 0, 1, 2, 3, 4, 5, 6);
+        PaperTrail x = Edges.longRun("0h");
         x.keep(0);
-        layEnds(x, 8, 1);
+        Edges.layEnds(x, 8, 1);
         x.keep(2);
         Check.due("none", x.on(0), 0);
         Check.due("count(5)", x.count(5), 0);
