@@ -3,27 +3,23 @@ import java.lang.reflect.Field;
 import java.lang.reflect.Member;
 import java.lang.reflect.Method;
 import java.lang.reflect.Modifier;
-import java.util.Arrays;
+import java.nio.file.Files;
+import java.nio.file.Path;
 import java.util.Set;
 import java.util.TreeSet;
+import java.util.regex.Matcher;
+import java.util.regex.Pattern;
 
 /** The document's face, and no other member that can be seen. */
 public final class FaceTest {
-    private static final String[] METHODS = {
-        "int row(int,int)", "int lay(int,int,int)", "int at(int,int)", "int tear(int)",
-        "int copy(int,int,int,int,int)", "int mean(int)", "int text(int,int)", "int put(int,int,int)",
-        "int fault(int)", "int country(int)", "int hound(int,int)", "int mark(int,int)", "int minutes(int,int)",
-        "int head(int)", "int trail(int)", "int lure(int,int,int)", "int off(int)", "int wind(int)", "int paper()",
-        "int empty(int)", "int keep(int)", "int on(int)", "int hares(int)", "int comes(int,int)",
-        "int pack(int,int)", "int caught()", "int ahead()", "int call(int)", "int best()", "int fewest(int)",
-        "int trails()", "int least(int)", "int route(int)", "int across(int,int,int)", "int parted(int,int)",
-        "int chance(int,int)", "int mid(int)", "int run(int)", "int kinds(int)", "int gone(int)", "int asked()",
-        "long upper()", "long lower()", "int count(int)", "int finding()", "int findings(int)", "long digest()"};
+    private static final Pattern METHOD = Pattern.compile("public (int|long) ([a-z]+)\\((.*)\\);");
+    private static final Pattern CONSTANT = Pattern.compile("\\b([A-Z]+) = (-?[0-9]+)");
 
     public static void main(String[] args) throws Exception {
         Class<?> c = PaperTrail.class;
         Check.due("public final", c.getModifiers(), Modifier.PUBLIC | Modifier.FINAL);
-        Set<String> want = new TreeSet<>(Arrays.asList(METHODS)), got = new TreeSet<>(), names = new TreeSet<>();
+        String face = faceOfDocument();
+        Set<String> got = new TreeSet<>(), names = new TreeSet<>();
         for (Method m : c.getDeclaredMethods()) {
             if (isSeen(m)) {
                 got.add(told(m));
@@ -31,14 +27,14 @@ public final class FaceTest {
                 Check.due(m.getName() + " is public, no more", m.getModifiers(), Modifier.PUBLIC);
             }
         }
-        same("methods", got, want);
+        same("methods", got, methodsOf(face));
         noneBearsAPublicName(c, names);
         for (Class<?> inside : c.getDeclaredClasses()) {
             noneBearsAPublicName(inside, names);
             Check.due(inside + " is static", Modifier.isStatic(inside.getModifiers()) ? 1 : 0, 1);
             Check.due(inside + " is hidden", inside.getModifiers() & (Modifier.PUBLIC | Modifier.PROTECTED), 0);
         }
-        constants(c);
+        same("constants", constantsOf(c), constantsOf(face));
         Constructor<?>[] made = c.getDeclaredConstructors();
         Check.due("constructors", made.length, 1);
         Check.due("public", made[0].getModifiers(), Modifier.PUBLIC);
@@ -75,7 +71,7 @@ public final class FaceTest {
         }
     }
 
-    private static void constants(Class<?> c) throws Exception {
+    private static Set<String> constantsOf(Class<?> c) throws Exception {
         Set<String> got = new TreeSet<>();
         for (Field f : c.getDeclaredFields()) {
             if (isSeen(f)) {
@@ -83,7 +79,32 @@ public final class FaceTest {
                 got.add(f.getType() + " " + f.getName() + " " + f.getInt(null));
             }
         }
-        same("constants", got, new TreeSet<>(Arrays.asList(
-            "int BAD -1", "int FULL -2", "int FINDING -3", "int STATE -4", "int SPENT -6", "int NONE -9")));
+        return got;
+    }
+
+    private static String faceOfDocument() throws Exception {
+        String document = Files.readString(Path.of("../shared/DOC.md"));
+        int begins = document.indexOf("```java");
+        return document.substring(begins, document.indexOf("\n```", begins));
+    }
+
+    private static Set<String> methodsOf(String face) {
+        Set<String> due = new TreeSet<>();
+        Matcher m = METHOD.matcher(face);
+        while (m.find()) {
+            due.add(m.group(1) + " " + m.group(2) + "(" + m.group(3).replaceAll(" \\w+(, )?", ",").replaceAll(",$", "") + ")");
+        }
+        Check.due("methods of the document", due.size(), 47);
+        return due;
+    }
+
+    private static Set<String> constantsOf(String face) {
+        Set<String> due = new TreeSet<>();
+        Matcher m = CONSTANT.matcher(face);
+        while (m.find()) {
+            due.add("int " + m.group(1) + " " + m.group(2));
+        }
+        Check.due("constants of the document", due.size(), 6);
+        return due;
     }
 }

@@ -1,3 +1,5 @@
+import java.lang.reflect.Field;
+import java.lang.reflect.Modifier;
 import java.nio.file.Files;
 import java.nio.file.Path;
 import java.util.List;
@@ -39,7 +41,24 @@ public final class LanguageTest {
             Check.due(where + ": an outside sign", code.chars().anyMatch(c -> c > 126) ? 1 : 0, 0);
         }
         Check.due("over twelve classes", classes > 12 ? 1 : 0, 0);
+        fieldsOf(PaperTrail.class);
+        for (Class<?> inside : PaperTrail.class.getDeclaredClasses()) {
+            fieldsOf(inside);
+            Check.due(inside + " has classes inside", inside.getDeclaredClasses().length, 0);
+        }
         Check.end();
+    }
+
+    /** Rules 5 and 11: static fields are constants, a class has some twenty others at most. */
+    private static void fieldsOf(Class<?> c) {
+        int many = 0;
+        for (Field f : c.getDeclaredFields()) {
+            boolean isStatic = Modifier.isStatic(f.getModifiers());
+            many += isStatic ? 0 : 1;
+            boolean isConstant = Modifier.isFinal(f.getModifiers()) && (f.getType() == int.class || f.getType() == int[].class);
+            Check.due(f + " is static, and no constant", isStatic && !isConstant ? 1 : 0, 0);
+        }
+        Check.due(c + " has over twenty fields", many > 20 ? 1 : 0, 0);
     }
 
     private static void forbid(String where, String code) {
